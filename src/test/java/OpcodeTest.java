@@ -21,6 +21,7 @@ public final class OpcodeTest {
 
     public static void main(String[] args) {
         stackCells();
+        oneOperandSuffices();
         arithmetic(ADD, 5, 3, 8);
         arithmetic(ADD, MAX, 1, MIN);
         arithmetic(ADD, MIN, -1, MAX);
@@ -69,6 +70,11 @@ public final class OpcodeTest {
         p.run(1, 1).stack(1, MIN);
         p.run(1, 2).stack(1, MIN, 6, 6).alive(1, 8, 0);
         p.alive(0, 0, 0).empty(0);
+    }
+
+    private static void oneOperandSuffices() {
+        Probe p = new Probe("one operand", PUSH, 6, DUP, 0, POP, 0, POP, 0);
+        p.spawn(0).run(0, 2).stack(0, 6, 6).run(0, 1).stack(0, 6).run(0, 1).stack(0).alive(0, 4, 0);
     }
 
     private static void arithmetic(int op, int a, int b, int want) {

@@ -20,6 +20,7 @@ public final class StepOrderTest {
         uninterruptibleNeverDelivers();
         deliveryGoesBeforeBlockedAndBadPc();
         oldestIsDeliveredFirst();
+        queuesAreApart();
         badPc();
         badPcIsCaught();
         blockedByOwnBracket();
@@ -84,6 +85,20 @@ public final class StepOrderTest {
         p.step(0, DELIVERED).stack(0, 13).pending(0, 14, 15).alive(0, 1, 0);
         p.step(0, DELIVERED).stack(0, 14).pending(0, 15).alive(0, 0, 0);
         p.step(0, DELIVERED).died(0, 0, 0, 15);
+    }
+
+    private static void queuesAreApart() {
+        Probe p = new Probe("four full queues", CATCH, 0);
+        p.spawn(0, 0, 0, 0);
+        for (int t = 0; t < 4; t++) {
+            p.run(t, 1).throwTo(t, 10 * t + 1, 10 * t + 2, 10 * t + 3, 10 * t + 4);
+        }
+        for (int t = 0; t < 4; t++) {
+            p.step(t, DELIVERED).stack(t, 10 * t + 1);
+        }
+        for (int t = 0; t < 4; t++) {
+            p.pending(t, 10 * t + 2, 10 * t + 3, 10 * t + 4);
+        }
     }
 
     private static void badPc() {
