@@ -6,6 +6,25 @@ final class Check {
     private Check() {
     }
 
+    // The words stand in the document as they stand here; the test is theirs alone.
+    static void sentence(String words, Runnable test) {
+        int lookedBefore = looked;
+        int wrongBefore = wrong;
+        try {
+            test.run();
+        } catch (RuntimeException thrown) {
+            wrong++;
+            System.out.println("no call may throw, but there was " + thrown);
+        }
+        if (looked == lookedBefore) {
+            wrong++;
+            System.out.println("no answer was looked at");
+        }
+        if (wrong != wrongBefore) {
+            System.out.println("BROKEN: " + words);
+        }
+    }
+
     static void due(String what, long got, long want) {
         looked++;
         if (got != want) {

@@ -46,7 +46,7 @@ public final class LongRunsTest {
         for (int call = 0; call < CALLS && Check.wrong() == 0 && !isOver(vm); call++) {
             oneCall(name + ", call " + call, vm, model, resources);
             Check.due(name + ", after call " + call, Snapshot.of(vm), model.snapshot());
-            resourcesAreInOrder(name + ", after call " + call, vm);
+            ResourceProperty.look(name + ", after call " + call, vm);
         }
     }
 
@@ -121,28 +121,5 @@ public final class LongRunsTest {
             default:
                 return below(3) - 1;
         }
-    }
-
-    private static void resourcesAreInOrder(String name, AsyncMaskVm vm) {
-        for (int r = 0; r < AsyncMaskVm.RESOURCES; r++) {
-            int holder = vm.getResource(r, 0);
-            int open = vm.getResource(r, 1) - vm.getResource(r, 2);
-            Check.due(name + ": unmatched acquires of " + r, open, holder >= 0 ? 1 : 0);
-            for (int tid = 0; tid < vm.getThreadCount(); tid++) {
-                Check.due(name + ": brackets of " + r + " in " + tid, bracketsOf(vm, tid, r), tid == holder ? 1 : 0);
-            }
-            if (holder != -1) {
-                Check.due(name + ": state of the holder of " + r, vm.getThread(holder, 0), AsyncMaskVm.ALIVE);
-            }
-        }
-    }
-
-    private static int bracketsOf(AsyncMaskVm vm, int tid, int r) {
-        int count = 0;
-        for (int i = 0; i < vm.getThread(tid, 5); i++) {
-            boolean bracket = vm.getFrame(tid, i, 0) == AsyncMaskVm.F_BRACKET;
-            count += bracket && vm.getFrame(tid, i, 1) == r ? 1 : 0;
-        }
-        return count;
     }
 }

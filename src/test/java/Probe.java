@@ -1,18 +1,49 @@
 // A machine under test with the looks that the tests repeat; its name stands before every wrong answer.
-final class Probe {
+final class Probe extends Names {
     final AsyncMaskVm vm;
     private final String name;
 
-    Probe(String name, int... cells) {
+    private Probe(String name, AsyncMaskVm vm) {
         this.name = name;
-        this.vm = new AsyncMaskVm(4, 64);
+        this.vm = vm;
+    }
+
+    Probe(String name, int... cells) {
+        this(name, new AsyncMaskVm(4, 64));
         code(cells);
+    }
+
+    static Probe sized(String name, int threadCap, int codeCap) {
+        return new Probe(name, new AsyncMaskVm(threadCap, codeCap));
+    }
+
+    // Thread 0 stands blocked at its own bracket, with 3 operands, 2 frames and 2 pending values;
+    // thread 1 has all that a thread can hold and is not blocked.
+    static Probe busy() {
+        Probe p = new Probe("busy", PUSH, 21, PUSH, 22, PUSH, 23, MASK, 1, BRACKET, 5, BRACKET, 5);
+        p.repeat(8, PUSH, 31).repeat(8, CATCH, 32).code(NOP, 0);
+        return p.spawn(0, 6).run(0, 5).run(1, 16).throwTo(0, 41, 42).throwTo(1, 43, 44, 45, 46);
     }
 
     // Cells are given as op, arg, op, arg, ...
     Probe code(int... cells) {
         for (int i = 0; i < cells.length; i += 2) {
             Check.due(name + ": load(" + cells[i] + ", " + cells[i + 1] + ")", vm.load(cells[i], cells[i + 1]), true);
+        }
+        return this;
+    }
+
+    Probe repeat(int times, int op, int arg) {
+        for (int i = 0; i < times; i++) {
+            code(op, arg);
+        }
+        return this;
+    }
+
+    // Eight cells that take the resources 0 to 7.
+    Probe takeAll() {
+        for (int r = 0; r < 8; r++) {
+            code(BRACKET, r);
         }
         return this;
     }
@@ -27,7 +58,7 @@ final class Probe {
 
     Probe run(int tid, int steps) {
         for (int i = 0; i < steps; i++) {
-            step(tid, AsyncMaskVm.EXECUTED);
+            step(tid, EXECUTED);
         }
         return this;
     }
@@ -37,18 +68,37 @@ final class Probe {
         return this;
     }
 
-    Probe stepChangesNothing(int tid, int want) {
-        String before = Snapshot.of(vm);
-        step(tid, want);
-        Check.due(name + ": the machine after step(" + tid + ")", Snapshot.of(vm), before);
-        return this;
-    }
-
     Probe throwTo(int tid, int... values) {
         for (int e : values) {
             Check.due(name + ": throwTo(" + tid + ", " + e + ")", vm.throwTo(tid, e), true);
         }
         return this;
+    }
+
+    Probe changesNothing(String calls, Runnable run) {
+        String before = Snapshot.of(vm);
+        run.run();
+        Check.due(name + ": the machine after " + calls, Snapshot.of(vm), before);
+        return this;
+    }
+
+    Probe stepChangesNothing(int tid, int want) {
+        return changesNothing("step(" + tid + ")", () -> step(tid, want));
+    }
+
+    Probe refusesLoad(int op, int arg) {
+        String call = "load(" + op + ", " + arg + ")";
+        return changesNothing(call, () -> Check.due(name + ": " + call, vm.load(op, arg), false));
+    }
+
+    Probe refusesSpawn(int pc) {
+        String call = "spawn(" + pc + ")";
+        return changesNothing(call, () -> Check.due(name + ": " + call, vm.spawn(pc), -1));
+    }
+
+    Probe refusesThrowTo(int tid, int e) {
+        String call = "throwTo(" + tid + ", " + e + ")";
+        return changesNothing(call, () -> Check.due(name + ": " + call, vm.throwTo(tid, e), false));
     }
 
     Probe field(int tid, int field, int want) {
@@ -61,19 +111,23 @@ final class Probe {
     }
 
     Probe alive(int tid, int pc, int mask) {
-        return thread(tid, AsyncMaskVm.ALIVE, pc, mask, 0);
+        return thread(tid, ALIVE, pc, mask, 0);
     }
 
     Probe died(int tid, int pc, int mask, int exit) {
-        return thread(tid, AsyncMaskVm.DIED, pc, mask, exit).empty(tid);
+        return thread(tid, DIED, pc, mask, exit).empty(tid);
     }
 
     Probe done(int tid, int pc, int mask) {
-        return thread(tid, AsyncMaskVm.DONE, pc, mask, 0).empty(tid);
+        return thread(tid, DONE, pc, mask, 0).empty(tid);
     }
 
     Probe empty(int tid) {
         return stack(tid).frames(tid).pending(tid).blocked(tid, false);
+    }
+
+    Probe depths(int tid, int operands, int frames, int pending) {
+        return field(tid, 4, operands).field(tid, 5, frames).field(tid, 6, pending);
     }
 
     Probe blocked(int tid, boolean want) {
@@ -113,6 +167,13 @@ final class Probe {
         Check.due(name + ": getResource(" + r + ", 0)", vm.getResource(r, 0), holder);
         Check.due(name + ": getResource(" + r + ", 1)", vm.getResource(r, 1), acquires);
         Check.due(name + ": getResource(" + r + ", 2)", vm.getResource(r, 2), releases);
+        return this;
+    }
+
+    Probe everyResource(int holder, int acquires, int releases) {
+        for (int r = 0; r < 8; r++) {
+            resource(r, holder, acquires, releases);
+        }
         return this;
     }
 }
