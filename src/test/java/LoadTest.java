@@ -183,7 +183,8 @@ public final class LoadTest extends Names {
 
     private static void sizeReaderChangesNothing() {
         Probe p = Probe.busy();
-        p.changesNothing("getCodeSize()", p.vm::getCodeSize);
+        p.changesNothing("getCodeSize()", p.vm::getCodeSize).isStillBusy();
+        Check.due("getCodeSize()", p.vm.getCodeSize(), 23);
     }
 
     private static void codeReaderChangesNothing() {
@@ -194,6 +195,8 @@ public final class LoadTest extends Names {
                     p.vm.getCode(addr, field);
                 }
             }
-        });
+        }).isStillBusy();
+        cell(p.vm, 0, PUSH, 21);
+        cell(p.vm, 22, NOP, 0);
     }
 }

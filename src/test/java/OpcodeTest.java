@@ -80,6 +80,15 @@ public final class OpcodeTest extends Names {
             frames.run(0, 1).alive(0, depth, UNMASKED).depths(0, 0, depth, 0);
         }
         frames.run(0, 1).alive(0, 40, UNMASKED).stack(0, E_FRAMES).depths(0, 1, 7, 0);
+        Probe four = new Probe("four threads, all full").repeat(8, MYID, 0).repeat(8, MASK, 1).spawn(0, 0, 0, 0);
+        for (int t = 0; t < 4; t++) {
+            four.run(t, 16);
+        }
+        for (int t = 0; t < 4; t++) {
+            four.alive(t, 16, MASKED).stack(t, t, t, t, t, t, t, t, t);
+            four.frames(t, F_MASK, 1, 0, F_MASK, 1, 1, F_MASK, 1, 1, F_MASK, 1, 1, F_MASK, 1, 1, F_MASK, 1, 1, F_MASK, 1, 1,
+                    F_MASK, 1, 1);
+        }
     }
 
     // The depth just below the needed one is the greatest that fails; the needed one does not.
@@ -116,14 +125,6 @@ public final class OpcodeTest extends Names {
             Probe p = new Probe("push " + k, PUSH, k, PUSH, 5);
             p.spawn(0).run(0, 1).alive(0, 1, UNMASKED).stack(0, k).run(0, 1).stack(0, k, 5);
         }
-        Probe four = new Probe("four full stacks").repeat(8, MYID, 0);
-        four.spawn(0, 0, 0, 0);
-        for (int t = 0; t < 4; t++) {
-            four.run(t, 8);
-        }
-        for (int t = 0; t < 4; t++) {
-            four.stack(t, t, t, t, t, t, t, t, t);
-        }
     }
 
     private static void pop() {
@@ -134,7 +135,8 @@ public final class OpcodeTest extends Names {
 
     private static void dup() {
         Probe p = new Probe("dup", PUSH, 5, DUP, 9, PUSH, MIN, DUP, 9);
-        p.spawn(0).run(0, 2).alive(0, 2, UNMASKED).stack(0, 5, 5).run(0, 2).stack(0, 5, 5, MIN, MIN);
+        p.spawn(0, 0, 0, 2).run(0, 2).alive(0, 2, UNMASKED).stack(0, 5, 5).run(0, 2).stack(0, 5, 5, MIN, MIN);
+        p.run(3, 2).alive(3, 4, UNMASKED).stack(3, MIN, MIN);
     }
 
     private static void add() {

@@ -25,6 +25,14 @@ final class Probe extends Names {
         return p.spawn(0, 6).run(0, 5).run(1, 16).throwTo(0, 41, 42).throwTo(1, 43, 44, 45, 46);
     }
 
+    // A snapshot can't tell of a change that the first read of a kind makes, for it reads in the same way.
+    Probe isStillBusy() {
+        alive(0, 5, MASKED).stack(0, 21, 22, 23).frames(0, F_MASK, 1, 0, F_BRACKET, 5, 1).pending(0, 41, 42).blocked(0, true);
+        alive(1, 22, UNMASKED).stack(1, 31, 31, 31, 31, 31, 31, 31, 31).pending(1, 43, 44, 45, 46).blocked(1, false);
+        frames(1, 1, 32, 0, 1, 32, 0, 1, 32, 0, 1, 32, 0, 1, 32, 0, 1, 32, 0, 1, 32, 0, 1, 32, 0);
+        return resource(5, 0, 1, 0).resource(0, -1, 0, 0).resource(7, -1, 0, 0);
+    }
+
     // Cells are given as op, arg, op, arg, ...
     Probe code(int... cells) {
         for (int i = 0; i < cells.length; i += 2) {

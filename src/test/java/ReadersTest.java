@@ -6,20 +6,26 @@ public final class ReadersTest extends Names {
     private static final int[] NO_THREAD_OF_TWO = {MIN, -2, -1, 2, 3, 4, MAX};
 
     public static void main(String[] args) {
-        Check.sentence("`getThread(tid, field)` answers -1 if `tid` is not in `[0,threadCount)`", ReadersTest::fieldsOfNoThread);
+        Check.sentence("`getThread(tid, field)` answers -1 if `tid` is not in `[0,threadCount)`",
+                ReadersTest::fieldsOfNoThread);
         Check.sentence("or `field` is not in 0..7", ReadersTest::wrongThreadFields);
         Check.sentence("0 state; 1 pc; 2 mask; 3 exit; 4 operand stack depth; 5 frame depth; 6 pending count",
                 ReadersTest::threadFields);
         Check.sentence("7 is 1 if BLOCKED(tid) else 0", ReadersTest::blockedField);
         Check.sentence("7 is 1 if BLOCKED(tid) else 0. It changes nothing.", () -> changesNothing(ReadersTest::readThreads));
         Check.sentence("Finished threads (DONE or DIED) stay readable.", ReadersTest::finishedStayReadable);
-        Check.sentence("`getStack(tid, i)` answers operand stack cell i (0 = bottom) of thread `tid`.", ReadersTest::stackCells);
-        Check.sentence("It answers 0 if `tid` is not in `[0,threadCount)` or i is not in `[0,depth)`.", ReadersTest::noStackCell);
+        Check.sentence("`getStack(tid, i)` answers operand stack cell i (0 = bottom) of thread `tid`.",
+                ReadersTest::stackCells);
+        Check.sentence("It answers 0 if `tid` is not in `[0,threadCount)` or i is not in `[0,depth)`.",
+                ReadersTest::noStackCell);
         Check.sentence("or i is not in `[0,depth)`. It changes nothing.", () -> changesNothing(ReadersTest::readStacks));
-        Check.sentence("`getFrame(tid, i, field)` answers a field of frame i (0 = bottom) of thread `tid`", ReadersTest::frameFields);
-        Check.sentence("field 1 is arg (handler for F_CATCH, clamped m for F_MASK, resource for F_BRACKET)", ReadersTest::frameArgs);
+        Check.sentence("`getFrame(tid, i, field)` answers a field of frame i (0 = bottom) of thread `tid`",
+                ReadersTest::frameFields);
+        Check.sentence("field 1 is arg (handler for F_CATCH, clamped m for F_MASK, resource for F_BRACKET)",
+                ReadersTest::frameArgs);
         Check.sentence("`saved` is the thread's mask when the frame was pushed", ReadersTest::savedMasks);
-        Check.sentence("It answers 0 if `tid` is not in `[0,threadCount)`, i is not in `[0,frame depth)`", ReadersTest::noFrame);
+        Check.sentence("It answers 0 if `tid` is not in `[0,threadCount)`, i is not in `[0,frame depth)`",
+                ReadersTest::noFrame);
         Check.sentence("i is not in `[0,frame depth)` or `field` is not in 0..2.", ReadersTest::wrongFrameFields);
         Check.sentence("i is not in `[0,frame depth)` or `field` is not in 0..2. It changes nothing.",
                 () -> changesNothing(ReadersTest::readFrames));
@@ -183,7 +189,7 @@ public final class ReadersTest extends Names {
 
     private static void changesNothing(Consumer<AsyncMaskVm> reads) {
         Probe busy = Probe.busy();
-        busy.changesNothing("the reads", () -> reads.accept(busy.vm));
+        busy.changesNothing("the reads", () -> reads.accept(busy.vm)).isStillBusy();
         Probe finished = new Probe("finished", THROW, 0, HALT, 0).spawn(0, 1).run(0, 1).run(1, 1);
         finished.changesNothing("the reads", () -> reads.accept(finished.vm));
     }

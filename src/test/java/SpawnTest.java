@@ -45,6 +45,8 @@ public final class SpawnTest extends Names {
         first.spawn(9).alive(0, 9, UNMASKED).empty(0);
         Probe afterDeath = new Probe("after a death", PUSH, 5, MASK, 2, THROW, 0);
         afterDeath.spawn(0).run(0, 3).spawn(0).alive(1, 0, UNMASKED).empty(1);
+        Probe afterMasked = new Probe("after a masked thread", MASK, 2);
+        afterMasked.spawn(0).run(0, 1).throwTo(0, 5).spawn(0).alive(1, 0, UNMASKED).empty(1);
     }
 
     private static void idsInOrder() {
@@ -90,6 +92,6 @@ public final class SpawnTest extends Names {
 
     private static void readerChangesNothing() {
         Probe p = Probe.busy();
-        p.changesNothing("getThreadCount()", p.vm::getThreadCount);
+        p.changesNothing("getThreadCount()", p.vm::getThreadCount).isStillBusy();
     }
 }

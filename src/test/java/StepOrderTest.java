@@ -13,9 +13,11 @@ public final class StepOrderTest extends Names {
         Check.sentence("pc not in `[0,codeSize)`: E_BADPC is raised in tid (pc is not advanced) and the answer is EXECUTED.",
                 StepOrderTest::badPc);
         Check.sentence("deciding in this order", StepOrderTest::order);
-        Check.sentence("This holds even if the cell raised, halted or killed the thread.", StepOrderTest::executedAllTheSame);
+        Check.sentence("This holds even if the cell raised, halted or killed the thread.",
+                StepOrderTest::executedAllTheSame);
         Check.sentence("When a cell executes, `pc := pc + 1` happens first, then the effect.", StepOrderTest::pcAdvances);
-        Check.sentence("Any error named below is raised with that advanced pc already in place.", StepOrderTest::errorsSeeAdvancedPc);
+        Check.sentence("Any error named below is raised with that advanced pc already in place.",
+                StepOrderTest::errorsSeeAdvancedPc);
         Check.sentence("What a step does not change", StepOrderTest::othersStay);
         Check.end();
     }

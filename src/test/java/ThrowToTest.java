@@ -127,6 +127,6 @@ public final class ThrowToTest extends Names {
                     p.vm.getPending(tid, i);
                 }
             }
-        });
+        }).isStillBusy();
     }
 }
